@@ -26,6 +26,7 @@ public final class HeapEnds {
     private static final int INTS = 2;
 
     private static final int TAPE = 400;
+    private static final int WORD = 8;
     private static final int BUYERS = 4;
     private static final int TOLD_WARES = 10;
     private static final int WARES = 16;
@@ -62,8 +63,8 @@ public final class HeapEnds {
     private final Market draft = new Market();
     private final Market[] images = new Market[IMAGES];
     private final Acts acts = new Acts();
-    private final Duel duel = new Duel(now);
-    private final Seer seer = new Seer(now);
+    private final Duel duel = new Duel();
+    private final Seer seer = new Seer();
     private final int[] bodies = new int[TRACE];
     private int begun;
     private int latestFault;
@@ -135,7 +136,7 @@ public final class HeapEnds {
     // ---- markets, acts
 
     public int feed(long w, int n) {
-        if (n < 1 || n > Long.BYTES) {
+        if (n < 1 || n > WORD) {
             return BAD;
         }
         if (tape.length + n > TAPE) {
@@ -275,8 +276,8 @@ public final class HeapEnds {
         if (areNoTwo(a, b) || what < 0 || what > 2) {
             return BAD;
         }
-        duel.seat(a, b);
-        duel.lineUp(now.heap, now.lying, 0);
+        duel.seat(now, a, b);
+        duel.lineUpFrom(0);
         duel.play();
         switch (what) {
             case 0:
@@ -292,8 +293,8 @@ public final class HeapEnds {
         if (areNoTwo(a, b)) {
             return BAD;
         }
-        duel.seat(a, b);
-        duel.lineUp(now.heap, now.lying, 0);
+        duel.seat(now, a, b);
+        duel.lineUpFrom(0);
         duel.play();
         int without = duel.gainOfA();
         duel.playWithPass();
@@ -310,7 +311,7 @@ public final class HeapEnds {
         if (k >= now.lying) {
             return NONE;
         }
-        duel.seat(a, b);
+        duel.seat(now, a, b);
         int gain = duel.findLaid();
         return k < 0 ? gain : duel.laid[k];
     }
@@ -322,7 +323,7 @@ public final class HeapEnds {
         if (now.lying == 0) {
             return NONE;
         }
-        duel.seat(a, b);
+        duel.seat(now, a, b);
         int gain = duel.findCut();
         return what == 0 ? gain : duel.cut;
     }
@@ -341,7 +342,7 @@ public final class HeapEnds {
         if (!rows[row].isBelow(now.buyers, i, n)) {
             return BAD;
         }
-        return unfound(seer.behindLine(rows[row], i, n, who));
+        return unfound(seer.behindLine(now, rows[row], i, n, who));
     }
 
     public int rots(int n, int what) {
@@ -370,7 +371,7 @@ public final class HeapEnds {
         if (place == NONE) {
             return STATE;
         }
-        return what == 0 ? seer.fewestTill(place) : seer.leastAhead(place);
+        return what == 0 ? seer.fewestTill(now, place) : seer.leastAhead(now, place);
     }
 
     public int harvest(int buyer, int k) {
@@ -380,7 +381,7 @@ public final class HeapEnds {
         if (k >= now.lying) {
             return NONE;
         }
-        seer.harvestFor(buyer);
+        seer.harvestFor(now, buyer);
         return k < 0 ? seer.most[0] : seer.ends[0] >> k & 1;
     }
 
@@ -398,7 +399,7 @@ public final class HeapEnds {
         if (!rows[row].isBelow(now.wares, i, n)) {
             return BAD;
         }
-        return unfound(seer.firstWrong(rows[row], i, n));
+        return unfound(seer.firstWrong(now, rows[row], i, n));
     }
 
     public int heard(int buyer, int row, int i, int n, int what) {
@@ -409,15 +410,15 @@ public final class HeapEnds {
         if (finding != 0) {
             return found(finding);
         }
-        seer.hear(buyer, rows[row], i, n);
-        return unfound(what == 0 ? seer.waysOf(n) : seer.surelyTaken(n));
+        seer.hear(now, buyer, rows[row], i, n);
+        return unfound(what == 0 ? seer.waysOf(n) : seer.surelyTaken(now, n));
     }
 
     public int apart(int buyer, int p, int k) {
         if (isNoBuyer(buyer) || p < 0 || p > now.lying || k < 0 || k > now.lying) {
             return BAD;
         }
-        return seer.mostApart(buyer, p, k);
+        return seer.mostApart(now, buyer, p, k);
     }
 
     public int image(int k) {
@@ -1066,10 +1067,14 @@ public final class HeapEnds {
      * in the part of the row that begins at a place stand at that place, over those of one less.
      */
     static final class Duel {
+        private static final int ORDERS = 720;
+
         final int[] laid = new int[MOST_LAID];
         int cut;
         int firstEnd;
-        private final Market market;
+        private int turn;
+        private int lying;
+        private final int[] heap = new int[WARES];
         private final int[] toA = new int[WARES];
         private final int[] toB = new int[WARES];
         private final int[] rowToA = new int[WARES];
@@ -1078,28 +1083,25 @@ public final class HeapEnds {
         private final int[] gainB = new int[WARES + 1];
         private final int[] passedA = new int[WARES + 1];
         private final int[] passedB = new int[WARES + 1];
-        private final int[] order = new int[MOST_LAID];
-        private int length;
 
-        Duel(Market market) {
-            this.market = market;
-        }
-
-        /** What each ware is worth to both; a row of them is lined up behind this. */
-        void seat(int a, int b) {
-            for (int ware = 0; ware < market.wares; ware++) {
+        /** The heap, as it is now, and what each ware in it is worth to both. */
+        void seat(Market market, int a, int b) {
+            turn = market.turn;
+            lying = market.lying;
+            for (int i = 0; i < lying; i++) {
+                int ware = market.heap[i];
+                heap[i] = ware;
                 toA[ware] = market.valueTo(a, ware, 0);
                 toB[ware] = market.valueTo(b, ware, 0);
             }
         }
 
         /** The row begins with the ware at a place, and goes on around to the one ahead of it. */
-        void lineUp(int[] wares, int n, int from) {
-            length = n;
-            for (int i = 0; i < n; i++) {
-                int place = from + i < n ? from + i : from + i - n;
-                rowToA[i] = toA[wares[place]];
-                rowToB[i] = toB[wares[place]];
+        void lineUpFrom(int first) {
+            for (int i = 0; i < lying; i++) {
+                int place = first + i < lying ? first + i : first + i - lying;
+                rowToA[i] = toA[heap[place]];
+                rowToB[i] = toB[heap[place]];
             }
         }
 
@@ -1114,9 +1116,9 @@ public final class HeapEnds {
         void play() {
             firstEnd = NONE;
             clearGains(gainA, gainB);
-            for (int n = 1; n <= length; n++) {
-                boolean turnOfA = isTurnOfA(length - n);
-                for (int i = 0; i + n <= length; i++) {
+            for (int n = 1; n <= lying; n++) {
+                boolean turnOfA = isTurnOfA(lying - n);
+                for (int i = 0; i + n <= lying; i++) {
                     firstEnd = takeEnd(gainA, gainB, i, n, turnOfA);
                 }
             }
@@ -1126,10 +1128,10 @@ public final class HeapEnds {
         void playWithPass() {
             clearGains(gainA, gainB);
             clearGains(passedA, passedB);
-            for (int n = 1; n <= length; n++) {
-                boolean turnOfA = isTurnOfA(length - n);
-                boolean nextOfA = isTurnOfA(length - n + 1);
-                for (int i = 0; i + n <= length; i++) {
+            for (int n = 1; n <= lying; n++) {
+                boolean turnOfA = isTurnOfA(lying - n);
+                boolean nextOfA = isTurnOfA(lying - n + 1);
+                for (int i = 0; i + n <= lying; i++) {
                     takeEnd(passedA, passedB, i, n, nextOfA);
                     takeEnd(gainA, gainB, i, n, turnOfA);
                     if (turnOfA && passedA[i] > gainA[i]) {
@@ -1142,27 +1144,26 @@ public final class HeapEnds {
 
         /** Looks at all rows of the wares that lie, in the order of their numbers; the most to a. */
         int findLaid() {
-            int n = market.lying;
             int most = -1;
-            sortLying(n);
+            sortHeap();
             boolean more = true;
-            for (int i = 0; i < 720 && more; i++) {
-                lineUp(order, n, 0);
+            for (int i = 0; i < ORDERS && more; i++) {
+                lineUpFrom(0);
                 play();
                 if (gainA[0] > most) {
                     most = gainA[0];
-                    System.arraycopy(order, 0, laid, 0, n);
+                    System.arraycopy(heap, 0, laid, 0, lying);
                 }
-                more = nextOrder(n);
+                more = goToNextOrder();
             }
             return most;
         }
 
-        /** Looks at all cuts; the most to a. */
+        /** Looks at all cuts of the ring; the most to a. */
         int findCut() {
             int most = -1;
-            for (int c = 0; c < market.lying; c++) {
-                lineUp(market.heap, market.lying, c);
+            for (int c = 0; c < lying; c++) {
+                lineUpFrom(c);
                 play();
                 if (gainA[0] > most) {
                     most = gainA[0];
@@ -1173,7 +1174,7 @@ public final class HeapEnds {
         }
 
         private void clearGains(int[] ofA, int[] ofB) {
-            for (int i = 0; i <= length; i++) {
+            for (int i = 0; i <= lying; i++) {
                 ofA[i] = 0;
                 ofB[i] = 0;
             }
@@ -1181,18 +1182,17 @@ public final class HeapEnds {
 
         /** Whose turn it is when so many went by: one each, or one and then two each. */
         private boolean isTurnOfA(int gone) {
-            int change = market.turn == 0 ? gone : (gone + 1) / 2;
-            return change % 2 == 0;
+            int changes = turn == 0 ? gone : (gone + 1) / 2;
+            return changes % 2 == 0;
         }
 
         /** One turn in the n wares from i on: the end that is taken; the gains become those with it. */
         private int takeEnd(int[] ofA, int[] ofB, int i, int n, boolean turnOfA) {
-            int last = i + n - 1;
             int[] his = turnOfA ? ofA : ofB;
             int[] others = turnOfA ? ofB : ofA;
             int[] rowToHim = turnOfA ? rowToA : rowToB;
             int byLeft = rowToHim[i] + his[i + 1];
-            int byRight = rowToHim[last] + his[i];
+            int byRight = rowToHim[i + n - 1] + his[i];
             if (byRight > byLeft) {
                 his[i] = byRight;
                 return RIGHT;
@@ -1202,40 +1202,38 @@ public final class HeapEnds {
             return LEFT;
         }
 
-        private void sortLying(int n) {
-            int placed = 0;
-            for (int ware = 0; ware < market.wares && placed < n; ware++) {
-                if (market.placeOf(ware) != NONE) {
-                    order[placed] = ware;
-                    placed++;
+        private void sortHeap() {
+            for (int i = 1; i < lying; i++) {
+                for (int j = i; j > 0 && heap[j - 1] > heap[j]; j--) {
+                    swap(j - 1, j);
                 }
             }
         }
 
         /** The next row by numbers of wares; false behind the last. */
-        private boolean nextOrder(int n) {
-            int i = n - 2;
-            while (i >= 0 && order[i] > order[i + 1]) {
+        private boolean goToNextOrder() {
+            int i = lying - 2;
+            while (i >= 0 && heap[i] > heap[i + 1]) {
                 i--;
             }
             if (i < 0) {
                 return false;
             }
-            int j = n - 1;
-            while (j > i && order[j] < order[i]) {
+            int j = lying - 1;
+            while (j > i && heap[j] < heap[i]) {
                 j--;
             }
             swap(i, j);
-            for (int a = i + 1, b = n - 1; a < b; a++, b--) {
+            for (int a = i + 1, b = lying - 1; a < b; a++, b--) {
                 swap(a, b);
             }
             return true;
         }
 
         private void swap(int i, int j) {
-            int ware = order[i];
-            order[i] = order[j];
-            order[j] = ware;
+            int ware = heap[i];
+            heap[i] = heap[j];
+            heap[j] = ware;
         }
     }
 
@@ -1243,16 +1241,11 @@ public final class HeapEnds {
     static final class Seer {
         final int[] most = new int[WARES + 1];
         final int[] ends = new int[WARES + 1];
-        private final Market market;
         private final int[] ways = new int[MOST_HEARD + 1];
         private final int[] sums = new int[WARES + 1];
 
-        Seer(Market market) {
-            this.market = market;
-        }
-
         /** How many wares lie behind a line of buyers (who -1), or what a buyer gains in it. */
-        int behindLine(Row line, int from, int n, int who) {
+        int behindLine(Market market, Row line, int from, int n, int who) {
             int left = 0;
             int right = market.lying - 1;
             int gain = 0;
@@ -1272,11 +1265,11 @@ public final class HeapEnds {
             return who < 0 ? right - left + 1 : gain;
         }
 
-        int fewestTill(int place) {
+        int fewestTill(Market market, int place) {
             return Math.min(place + 1, market.lying - place);
         }
 
-        int leastAhead(int place) {
+        int leastAhead(Market market, int place) {
             int toLeft = 0;
             int toRight = 0;
             for (int i = 0; i < market.lying; i++) {
@@ -1294,7 +1287,7 @@ public final class HeapEnds {
          * From the last ware back, as in a duel; the ends taken in a part of the row stand in the
          * bits of a number, the first of them lowest.
          */
-        void harvestFor(int buyer) {
+        void harvestFor(Market market, int buyer) {
             Arrays.fill(most, 0);
             Arrays.fill(ends, 0);
             for (int n = 1; n <= market.lying; n++) {
@@ -1310,7 +1303,7 @@ public final class HeapEnds {
         }
 
         /** The place, in what is told, of the first ware that cannot be taken then. */
-        int firstWrong(Row told, int from, int n) {
+        int firstWrong(Market market, Row told, int from, int n) {
             int left = 0;
             int right = market.lying - 1;
             for (int i = 0; i < n; i++) {
@@ -1327,26 +1320,26 @@ public final class HeapEnds {
         }
 
         /** Leaves at each number of wares taken from the left in how many ways it can have been so. */
-        void hear(int buyer, Row told, int from, int n) {
+        void hear(Market market, int buyer, Row told, int from, int n) {
             Arrays.fill(ways, 0);
             ways[0] = 1;
             for (int gone = 0; gone < n; gone++) {
                 int value = told.items[from + gone];
                 for (int lefts = gone + 1; lefts >= 0; lefts--) {
-                    int byLeft = lefts > 0 && isLeft(buyer, value, lefts - 1, gone) ? ways[lefts - 1] : 0;
-                    int byRight = lefts <= gone && isRight(buyer, value, lefts, gone) ? ways[lefts] : 0;
+                    int byLeft = lefts > 0 && isLeft(market, buyer, value, lefts - 1, gone) ? ways[lefts - 1] : 0;
+                    int byRight = lefts <= gone && isRight(market, buyer, value, lefts, gone) ? ways[lefts] : 0;
                     ways[lefts] = byLeft + byRight;
                 }
             }
         }
 
         /** Whether the leftmost has this value, when so many are gone, so many of them from the left. */
-        private boolean isLeft(int buyer, int value, int lefts, int gone) {
+        private boolean isLeft(Market market, int buyer, int value, int lefts, int gone) {
             return gone < market.lying && market.valueTo(buyer, market.heap[lefts], 0) == value;
         }
 
         /** Likewise the rightmost; the last ware of all counts as the leftmost alone, as it is one way. */
-        private boolean isRight(int buyer, int value, int lefts, int gone) {
+        private boolean isRight(Market market, int buyer, int value, int lefts, int gone) {
             int place = market.lying - 1 - (gone - lefts);
             return gone < market.lying - 1 && market.valueTo(buyer, market.heap[place], 0) == value;
         }
@@ -1359,17 +1352,17 @@ public final class HeapEnds {
             return all;
         }
 
-        int surelyTaken(int n) {
+        int surelyTaken(Market market, int n) {
             int sure = -1;
             for (int lefts = 0; lefts <= n; lefts++) {
                 if (ways[lefts] > 0) {
-                    sure &= bitsOf(0, lefts) | bitsOf(market.lying - (n - lefts), n - lefts);
+                    sure &= bitsOf(market, 0, lefts) | bitsOf(market, market.lying - (n - lefts), n - lefts);
                 }
             }
             return sure == -1 ? NONE : sure;
         }
 
-        private int bitsOf(int from, int n) {
+        private int bitsOf(Market market, int from, int n) {
             int bits = 0;
             for (int i = from; i < from + n; i++) {
                 bits |= 1 << market.heap[i];
@@ -1377,10 +1370,10 @@ public final class HeapEnds {
             return bits;
         }
 
-        int mostApart(int buyer, int p, int k) {
+        int mostApart(Market market, int buyer, int p, int k) {
             int others = market.lying - p;
             int gain = 0;
-            addUp(buyer);
+            addUp(market, buyer);
             for (int n = Math.max(0, k - others); n <= Math.min(p, k); n++) {
                 gain = Math.max(gain, mostOfStall(0, p, n) + mostOfStall(p, others, k - n));
             }
@@ -1388,7 +1381,7 @@ public final class HeapEnds {
         }
 
         /** Leaves at each place what all wares ahead of it are worth to him. */
-        private void addUp(int buyer) {
+        private void addUp(Market market, int buyer) {
             sums[0] = 0;
             for (int i = 0; i < market.lying; i++) {
                 sums[i + 1] = sums[i] + market.valueTo(buyer, market.heap[i], 0);
