@@ -108,6 +108,15 @@ public final class ActsTest {
         Due.due("all that he has", y.take(0, 0), 10);
         Due.due("an empty purse", y.buyer(0, 1), 0);
         Due.due("one too many", y.take(0, 0), Due.STATE);
+        HeapEnds z = Due.read("law 0;buyer 4 5;buyer 4 4;ware fruit 5 0;ware melon 5 0;");
+        Due.due("its value is that of this day", z.take(1, 0), Due.STATE);
+        Due.due("neither more nor less", z.take(0, 0), 5);
+        z.undo();
+        Due.due("what he gained is undone", z.buyer(0, 2), 0);
+        Due.due("what he paid, too", z.buyer(0, 1), 5);
+        z.day();
+        Due.due("a day on", z.take(1, 0), 4);
+        Due.due("another's", z.take(0, 0), Due.STATE);
     }
 
     private static void lay() {

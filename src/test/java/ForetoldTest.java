@@ -34,6 +34,9 @@ public final class ForetoldTest {
         Due.tell(y, 3, 0, 1);
         Due.due("of like ones the left: gain", y.line(3, 0, 2, 1), 5);
         Due.due("of like ones the left: lie", y.line(3, 0, 2, -1), 2);
+        HeapEnds riper = Due.read("law 0;buyer 5 0;buyer 1 0;ware melon 4 0;ware fruit 5 0;ware cloth 30 0;ware fruit 6 1;");
+        Due.tell(riper, 0, 0, 0, 0);
+        Due.due("neither older nor younger", riper.line(0, 0, 3, 0), 5 + 5 + 30);
         HeapEnds z = Due.read("law 0;buyer 1 0;");
         z.row(0, 0, 40);
         Due.due("an empty heap", z.line(0, 0, 40, -1), 0);
@@ -229,6 +232,9 @@ public final class ForetoldTest {
         Due.tell(two, 0, 4, 4);
         dueHeard("two alike", two, 2, 2, 3);
         Due.due("nobody pays", two.buyer(0, 1), 0);
+        HeapEnds today = Due.read("law 0;buyer 5 0;ware fruit 5 1;ware cloth 9 0;ware fruit 5 1;");
+        Due.tell(today, 0, 4, 4, 9);
+        dueHeard("values of this day", today, 3, 2, 7);
         HeapEnds none = Due.read("law 0;buyer 5 0;");
         Due.tell(none, 0, 0);
         dueHeard("an empty heap", none, 1, 0, Due.NONE);
@@ -282,6 +288,16 @@ public final class ForetoldTest {
         Due.due("p 7", x.apart(0, 7, 0), Due.BAD);
         Due.due("k -1", x.apart(0, 0, -1), Due.BAD);
         Due.due("k 7", x.apart(0, 0, 7), Due.BAD);
+        HeapEnds most = Due.read("law 0;buyer 1 0;" + "ware cloth 2 0;".repeat(10));
+        for (int ware = 10; ware < 16; ware++) {
+            most.lay(4, 2, 0);
+        }
+        for (int k = 0; k <= 16; k++) {
+            Due.due("16 lie, " + k, most.apart(0, 7, k), 2 * k);
+            Due.due("16 lie, the first stall alone, " + k, most.apart(0, 16, k), 2 * k);
+            Due.due("harvest of 16, " + k, most.harvest(0, k), k < 16 ? 0 : Due.NONE);
+        }
+        Due.due("harvest of 16", most.harvest(0, -1), 32);
         HeapEnds none = Due.read("law 0;buyer 1 0;");
         Due.due("an empty heap", none.apart(0, 0, 0), 0);
         Due.due("an empty heap, one", none.apart(0, 0, 1), Due.BAD);

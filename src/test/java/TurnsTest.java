@@ -1,6 +1,7 @@
 /** Promises 16 to 19. */
 public final class TurnsTest {
     private static final String TWO = "buyer 1 0;buyer 2 0;";
+    private static final String UNLIKE = "buyer 1 0;buyer 4 0;";
 
     public static void main(String[] args) {
         bestByOneEach();
@@ -12,6 +13,7 @@ public final class TurnsTest {
         ring();
         wrongBuyers();
         nothingLies();
+        mostLie();
         Due.end("TurnsTest");
     }
 
@@ -80,16 +82,27 @@ public final class TurnsTest {
         dueBest("best stays", x, 2, 9, 0);
         // The pass is of use only behind the first turn: 1 9 1 with one more at the end for each.
         Due.due("a later turn", cloths(0, 20, 20, 1, 9, 1).passBy(0, 1), 7);
-        // Once alone: two times 1 9 1 give no more than one.
-        Due.due("once", cloths(0, 1, 9, 1, 1, 9, 1).passBy(0, 1), 0);
         HeapEnds y = Due.read("law 0;buyer 4 0;buyer 1 0;ware fruit 1 0;ware cloth 9 0;ware fruit 1 0;");
         // to a 1, 18, 1, to b 2, 9, 2
         Due.due("by what it is to him", y.passBy(0, 1), 18 - 2);
         Due.due("by what it is to the other", y.passBy(1, 0), 9 - 4);
+        HeapEnds less = Due.read("law 0;" + UNLIKE + "ware fruit 3 0;ware fruit 4 0;ware cloth 1 0;ware fruit 1 0;ware fruit 1 0;");
+        // b, knowing of the pass, takes otherwise, and a would have 2 less.
+        Due.due("0 at least", less.passBy(0, 1), 0);
+        HeapEnds z = Due.read("law 0;" + UNLIKE + "ware cloth 1 0;ware cloth 4 0;ware fruit 1 0;");
+        // to a 1 4 2, to b 2 8 1: 3 by either end; behind a pass b takes the left of like ones, and a the 4.
+        Due.due("a little more", z.passBy(0, 1), 4 - 3);
     }
 
     private static void passByTwoEach() {
-        // A pass is of one take: a goes by, then b takes both of his.
+        // to a 4 8 4, to b 8 4 8: behind a pass b takes his two at the ends, and leaves the middle to a.
+        HeapEnds x = Due.read("law 1;" + UNLIKE + "ware cloth 4 0;ware fruit 4 0;ware cloth 4 0;");
+        Due.due("the middle falls to a", x.passBy(0, 1), 8 - 4);
+        // to a 3 10 10 4, to b 6 5 5 8: a has 4 and a 10, behind a pass both of the 10.
+        HeapEnds y = Due.read("law 1;" + UNLIKE + "ware cloth 3 0;ware fruit 5 0;ware fruit 5 0;ware cloth 4 0;");
+        Due.due("both of the middle fall to a", y.passBy(0, 1), 20 - 14);
+        // A pass is of one take: behind one at the first of his two turns he has the second yet.
+        Due.due("four alike", cloths(1, 5, 5, 5, 5).passBy(0, 1), 0);
         Due.due("three", cloths(1, 1, 9, 1).passBy(0, 1), 0);
         Due.due("two", cloths(1, 3, 3).passBy(0, 1), 0);
     }
@@ -109,12 +122,8 @@ public final class TurnsTest {
         // The greatest at an end; b has the greater of the two that stay.
         dueLaid("three", cloths(0, 4, 9, 2), 9 + 2, 0, 2, 1);
         dueLaid("as they lie", cloths(0, 9, 2, 4), 9 + 2, 0, 1, 2);
+        dueLaid("by numbers, not as they lie", falling(), 9 + 2, 0, 2, 1);
         dueLaid("all alike", cloths(0, 3, 3, 3, 3, 3, 3), 9, 0, 1, 2, 3, 4, 5);
-        HeapEnds x = Due.read("law 0;" + TWO + "ware cloth 9 0;ware cloth 4 0;ware cloth 2 0;ware cloth 1 0;");
-        x.lay(4, 3, 0);
-        x.take(1, 1);
-        x.take(1, 1);
-        Due.due("one is too dear to be taken", x.count(3), 5);
         HeapEnds y = Due.read("law 0;buyer 1 99;buyer 2 0;ware cloth 1 0;ware cloth 1 0;ware cloth 1 0;ware cloth 1 0;"
             + "ware cloth 4 0;ware cloth 9 0;ware cloth 2 0;");
         Due.due("seven", y.laid(0, 1, -1), Due.FULL);
@@ -128,6 +137,14 @@ public final class TurnsTest {
         // Behind the 9 b has 2 or 0 alone, where the 4 is between those.
         Due.due("four lie", y.laid(0, 1, -1), 9 + 4);
         Due.due("nothing changes", y.ware(7, 3), 0);
+    }
+
+    /** Three that lie with the last number at the left, of worths 4 9 2 by numbers. */
+    private static HeapEnds falling() {
+        HeapEnds x = cloths(0, 4);
+        x.lay(4, 9, 0);
+        x.lay(4, 2, 0);
+        return x;
     }
 
     private static void ring() {
@@ -160,6 +177,21 @@ public final class TurnsTest {
         Due.due("best what -1", x.best(0, 1, -1), Due.BAD);
         Due.due("best what 3", x.best(0, 1, 3), Due.BAD);
         Due.due("laid -2", x.laid(0, 1, -2), Due.BAD);
+    }
+
+    private static void mostLie() {
+        for (int law = 0; law < 2; law++) {
+            HeapEnds x = cloths(law, 1, 1, 1, 1, 1, 1, 1, 1, 1, 1);
+            for (int ware = 10; ware < 15; ware++) {
+                x.lay(4, 1, ware % 2);
+            }
+            x.lay(4, 30, 1);
+            dueBest("16, law " + law, x, 30 + 7, 8, 1);
+            Due.due("pass, law " + law, x.passBy(0, 1), 0);
+            Due.due("ring, law " + law, x.ring(0, 1, 0), 30 + 7);
+            Due.due("ring cut, law " + law, x.ring(0, 1, 1), 0);
+            Due.due("laid, law " + law, x.laid(0, 1, -1), Due.FULL);
+        }
     }
 
     private static void nothingLies() {
