@@ -95,6 +95,10 @@ public final class TextsTest {
         dueFault("law 0 0;", 6, 1);
         dueFault("lawn 0;", 0, 1);
         dueFault("la 0;", 0, 1);
+        dueFault("saw 0;", 0, 1);
+        dueFault("law 0;lawz", 6, 1);
+        dueFault("lawz 0;", 0, 1);
+        dueFault("alaw 0;", 0, 1);
         dueFault(" Law 0;", 1, 1);
         dueFault("laW 0;", 0, 1);
         dueFault("law\t0;", 3, 1);
@@ -128,6 +132,7 @@ public final class TextsTest {
         dueFault("law 0;buyer 5 200", 17, 1);
         dueFault("law 0;buyer 5 200 1;", 18, 1);
         dueFault("law 0;buyers 5 200;", 6, 1);
+        dueFault("law 0;cuyer 5 200;", 6, 1);
         dueFault("law 0;" + BUYER.repeat(4) + " buyer 9 999;", 47, 3);
         dueFault("law 0;" + BUYER.repeat(4) + "buyer", 46, 3);
         dueFault("law 0;" + BUYER.repeat(3) + WARE + BUYER, 50, 1);
@@ -151,6 +156,8 @@ public final class TextsTest {
         dueFault("law 0;ware fruit 30 9 9;", 22, 1);
         dueFault("law 0;ware fruit ; 9;", 17, 1);
         dueFault("law 0;wares fruit 3 9;", 6, 1);
+        dueFault("law 0;mare fruit 3 9;", 6, 1);
+        dueFault("law 0;ware milk 3 9;", 11, 1);
         dueFault("law 0;" + WARE.repeat(10) + "ware plum 99 99;", 146, 3);
         dueFault("law 0;" + WARE.repeat(10) + "\nware", 147, 3);
         dueFault("law 0;" + WARE.repeat(10) + "law", 146, 1);

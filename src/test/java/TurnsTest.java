@@ -89,6 +89,9 @@ public final class TurnsTest {
         HeapEnds less = Due.read("law 0;" + UNLIKE + "ware fruit 3 0;ware fruit 4 0;ware cloth 1 0;ware fruit 1 0;ware fruit 1 0;");
         // b, knowing of the pass, takes otherwise, and a would have 2 less.
         Due.due("0 at least", less.passBy(0, 1), 0);
+        HeapEnds alike = Due.read("law 0;" + UNLIKE + "ware cloth 0 0;ware cloth 2 0;ware fruit 1 0;ware fruit 3 0;ware cloth 3 0;");
+        // Were he to pass, too, where that is only as good as an end, b would take otherwise, and a have 3 more.
+        Due.due("only where it is more", alike.passBy(0, 1), 0);
         HeapEnds z = Due.read("law 0;" + UNLIKE + "ware cloth 1 0;ware cloth 4 0;ware fruit 1 0;");
         // to a 1 4 2, to b 2 8 1: 3 by either end; behind a pass b takes the left of like ones, and a the 4.
         Due.due("a little more", z.passBy(0, 1), 4 - 3);
