@@ -12,21 +12,35 @@ final class Due {
 
     private static int asked;
     private static int wrong;
+    private static int sentences;
+    private static String sentence = "";
 
     private Due() {
+    }
+
+    /** What is due from now on is so by these words of the document. */
+    static void sentence(String where, String words) {
+        sentences++;
+        sentence = where + ", \"" + words + "\": ";
     }
 
     static void due(String call, long got, long want) {
         asked++;
         if (got != want) {
             wrong++;
-            System.out.println(call + " answered " + got + ", due is " + want);
+            System.out.println(sentence + call + " answered " + got + ", due is " + want);
         }
     }
 
+    /** Eight bytes a call, so that a long text leaves calls for the rest: an object is good for 512. */
     static void feed(HeapEnds x, String text) {
-        for (int i = 0; i < text.length(); i++) {
-            x.feed(text.charAt(i), 1);
+        for (int i = 0; i < text.length(); i += 8) {
+            int n = Math.min(8, text.length() - i);
+            long w = 0;
+            for (int k = 0; k < n; k++) {
+                w = w << 8 | text.charAt(i + k);
+            }
+            x.feed(w, n);
         }
     }
 
@@ -54,7 +68,8 @@ final class Due {
     }
 
     static void end(String test) {
-        System.out.println(test + ": " + asked + " answers, " + wrong + " not as due");
+        String held = sentences == 0 ? "" : sentences + " sentences, ";
+        System.out.println(test + ": " + held + asked + " answers, " + wrong + " not as due");
         if (wrong != 0) {
             System.exit(1);
         }
