@@ -35,6 +35,7 @@ public final class ActEdgesTest {
         images();
         imageRefused();
         restored();
+        restoredMost();
         restoreRefused();
         counts();
         Due.end("ActEdgesTest");
@@ -164,6 +165,14 @@ public final class ActEdgesTest {
         HeapEnds z = Due.read("law 0;buyer 1 30;ware silk 30 3;ware melon 28 5;ware cloth 30 0;");
         Due.due("VALUE, not WORTH: take(0, 0)", z.take(0, 0), Due.STATE);
         Due.due("take(0, 1)", z.take(0, 1), 30);
+        Twins.Maker today = () -> Due.read("law 0;buyer 5 4;ware fruit 5 0;ware melon 4 0;");
+        HeapEnds t = today.make();
+        Due.due("VALUE of this DAY: take(0, 0)", t.take(0, 0), Due.STATE);
+        Due.due("VALUE of this DAY: take(0, 1)", t.take(0, 1), 4);
+        t = today.make();
+        t.day();
+        Due.due("a DAY on: take(0, 1)", t.take(0, 1), Due.STATE);
+        Due.due("a DAY on: take(0, 0)", t.take(0, 0), 4);
     }
 
     private static void takeTheLast() {
@@ -270,6 +279,10 @@ public final class ActEdgesTest {
             x.lay(ware == 15 ? 1 : 4, 1, 1);
         }
         Due.due("the lowest and the highest bit: day()", x.day(), 1 | 1 << 15);
+        HeapEnds later = Due.read("law 0;ware fruit 2 0;ware berry 4 0;ware fruit 3 0;");
+        Due.due("none of them yet: day()", later.day(), 0);
+        Due.due("two of them: day()", later.day(), 1 | 2);
+        Due.due("the last of them: day()", later.day(), 4);
         HeapEnds all = Due.read("law 0;" + "ware berry 2 0;".repeat(10));
         for (int ware = 10; ware < 16; ware++) {
             all.lay(1, 1, 0);
@@ -596,6 +609,52 @@ public final class ActEdgesTest {
         x.day();
         x.restore(0);
         Due.due("count(4)", x.count(4), 2);
+    }
+
+    /** 16 wares that are unlike, in an order that is not that of their numbers, some of them taken. */
+    private static HeapEnds unlike() {
+        HeapEnds x = Due.read("law 1;buyer 0 200;buyer 5 200;buyer 4 9;buyer 1 200;" + "ware melon 9 4;".repeat(5));
+        for (int ware = 5; ware < 16; ware++) {
+            x.lay(1 + ware % 5, ware, ware % 3 == 0 ? 0 : 1);
+        }
+        x.day();
+        for (int buyer = 0; buyer < 4; buyer++) {
+            x.take(buyer, buyer % 2);
+        }
+        return x;
+    }
+
+    private static void restoredMost() {
+        Due.sentence("Promise 28, restore (the most that a MARKET can be)", "The MARKET is as an IMAGE kept it");
+        HeapEnds one = unlike();
+        one.image(0);
+        one.undo();
+        one.undo();
+        Due.readInto(one, "law 0;" + "ware berry 30 0;".repeat(10));
+        for (int ware = 10; ware < 16; ware++) {
+            one.lay(4, 30, 0);
+        }
+        Due.due("restore(0)", one.restore(0), 1);
+        HeapEnds other = unlike();
+        other.image(0);
+        Due.due("restore(0)", other.restore(0), 1);
+        Twins.dueAlike("restored", one, other);
+        HeapEnds was = unlike();
+        HeapEnds is = unlike();
+        is.image(1);
+        is.day();
+        is.restore(1);
+        for (int ware = 0; ware < 16; ware++) {
+            for (int what = 0; what < 6; what++) {
+                Due.due("ware(" + ware + ", " + what + ")", is.ware(ware, what), was.ware(ware, what));
+            }
+            Due.due("kind(" + ware + ")", is.kind(ware), was.kind(ware));
+        }
+        for (int buyer = 0; buyer < 4; buyer++) {
+            for (int what = 0; what < 4; what++) {
+                Due.due("buyer(" + buyer + ", " + what + ")", is.buyer(buyer, what), was.buyer(buyer, what));
+            }
+        }
     }
 
     private static void restoreRefused() {

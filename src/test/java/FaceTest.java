@@ -12,7 +12,7 @@ import java.util.TreeSet;
 import java.util.regex.Matcher;
 import java.util.regex.Pattern;
 
-/** The face of the document, and of LANGUAGE.md what can be seen from the words of the source. */
+/** The face of the document; of LANGUAGE.md what can be seen from the words of the source; that no promise lacks tests of edges. */
 public final class FaceTest {
     private static final String[] FACE = {
         "row(int,int,int)", "set(int,int,int)", "copy(int,int,int,int,int)", "drop(int)",
@@ -31,7 +31,19 @@ public final class FaceTest {
         members();
         inside();
         source(Files.readString(Path.of("src/main/java/HeapEnds.java")));
+        promisesHaveEdges();
         Due.end("FaceTest");
+    }
+
+    private static void promisesHaveEdges() throws IOException {
+        StringBuilder tests = new StringBuilder();
+        for (String of : new String[] {"Terms", "Row", "Text", "Act", "Turn", "Foretold", "Asked"}) {
+            tests.append(Files.readString(Path.of("src/test/java/" + of + "EdgesTest.java")));
+        }
+        for (int promise = 1; promise <= 34; promise++) {
+            dueTrue("promise " + promise + " has a sentence that is tested by itself",
+                Pattern.compile("sentence\\(\"Promise " + promise + "[, ]").matcher(tests).find());
+        }
     }
 
     private static void dueTrue(String what, boolean is) {

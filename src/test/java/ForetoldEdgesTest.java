@@ -10,7 +10,9 @@ public final class ForetoldEdgesTest {
 
     public static void main(String[] args) {
         lineCounts();
+        lineOneAfterAnother();
         lineLeftOfLikeOnes();
+        lineToday();
         lineBehindTheLast();
         lineBad();
         lineState();
@@ -23,6 +25,7 @@ public final class ForetoldEdgesTest {
         rotsState();
         reachFewest();
         reachLeast();
+        reachBoth();
         reachRefused();
         harvestOfLittle();
         harvestEnds();
@@ -30,6 +33,7 @@ public final class ForetoldEdgesTest {
         harvestADayEach();
         harvestRefused();
         judgeNone();
+        judgeNoDay();
         judgeAtNeitherEnd();
         judgeTakenOrTold();
         judgeBad();
@@ -46,6 +50,7 @@ public final class ForetoldEdgesTest {
         apartEitherEnd();
         apartBad();
         nothingChanges();
+        foretoldAnew();
         Due.end("ForetoldEdgesTest");
     }
 
@@ -82,6 +87,18 @@ public final class ForetoldEdgesTest {
         dueLine(x, 38, 2, 14, 2, 0, 0, 1);
     }
 
+    private static void lineOneAfterAnother() {
+        Due.sentence("Terms, 3 FORETOLD", "LINE: a row of BUYERS, one after another");
+        HeapEnds x = Due.read("law 0;buyer 1 0;buyer 4 0;ware cloth 9 0;ware cloth 5 0;ware fruit 7 0;");
+        Due.tell(x, 0, 0, 1, 1, 0, 1);
+        // To 0 it is 9 5 14, to 1 it is 18 10 7.
+        dueLine(x, 0, 3, 0, 14, 28);
+        dueLine(x, 1, 3, 0, 14, 28);
+        dueLine(x, 2, 3, 0, 14, 28);
+        dueLine(x, 3, 2, 1, 14, 18);
+        dueLine(x, 1, 2, 1, 0, 28);
+    }
+
     private static void lineLeftOfLikeOnes() {
         Due.sentence("Terms, 3 FORETOLD", "each takes the end whose VALUE to him is greater (of like ones the left)");
         HeapEnds x = Due.read("law 0;buyer 1 0;buyer 4 0;ware cloth 4 0;ware cloth 9 0;ware cloth 1 0;ware fruit 2 0;");
@@ -95,6 +112,20 @@ public final class ForetoldEdgesTest {
         HeapEnds none = Due.read("law 0;buyer 1 0;ware cloth 0 0;ware cloth 7 0;ware fruit 0 0;");
         Due.tell(none, 0, 0, 0);
         dueLine(none, 0, 2, 1, 7);
+    }
+
+    private static void lineToday() {
+        Due.sentence("Terms, 3 FORETOLD (LINE)", "no DAY goes by but where told");
+        // 5 and 5, of which a DAY on the fruit would be 4; 4 and 5, of which a DAY on the melon would be 5.
+        HeapEnds left = Due.read("law 0;buyer 5 0;buyer 0 0;ware fruit 5 0;ware cloth 5 0;");
+        HeapEnds right = Due.read("law 0;buyer 5 0;buyer 0 0;ware cloth 5 0;ware fruit 5 0;");
+        HeapEnds melon = Due.read("law 0;buyer 5 0;buyer 0 0;ware melon 4 0;ware cloth 5 0;");
+        Due.tell(left, 0, 0, 1);
+        Due.tell(right, 0, 0, 1);
+        Due.tell(melon, 0, 0, 1);
+        dueLine(left, 0, 2, 0, 5, 10);
+        dueLine(right, 0, 2, 0, 5, 10);
+        dueLine(melon, 0, 2, 0, 5, 8);
     }
 
     private static void lineBehindTheLast() {
@@ -307,6 +338,15 @@ public final class ForetoldEdgesTest {
         dueReach(z, 2, 2, 6);
     }
 
+    private static void reachBoth() {
+        Due.sentence("Promise 22, reach", "how many (what = 0), the least VALUE ahead (1)");
+        // The fewest are at the right, the least at the left.
+        HeapEnds x = Due.read("law 0;ware cloth 1 0;ware cloth 2 0;ware cloth 9 0;ware cloth 30 0;");
+        dueReach(x, 2, 2, 3);
+        HeapEnds one = Due.read("law 0;ware cloth 9 0;");
+        dueReach(one, 0, 1, 0);
+    }
+
     private static void reachRefused() {
         Due.sentence("Promise 22, reach", "BAD; STATE: it is taken.");
         for (int ware : new int[] {-1, 5, 16, LEAST, MOST}) {
@@ -404,6 +444,16 @@ public final class ForetoldEdgesTest {
         x.set(0, 15, 0);
         Due.due("the last of them: judge(0, 0, 16)", x.judge(0, 0, 16), 15);
         Due.due("all but that: judge(0, 0, 15)", x.judge(0, 0, 15), Due.NONE);
+    }
+
+    private static void judgeNoDay() {
+        Due.sentence("Terms, 3 FORETOLD", "JUDGE: a row tells WARES as taken one after another from now on, no DAY between");
+        HeapEnds x = Due.read("law 0;buyer 0 0;ware fruit 9 0;ware cloth 0 0;ware fruit 9 0;");
+        Due.tell(x, 0, 2, 0, 1);
+        Due.due("nobody tells who pays: judge(0, 0, 3)", x.judge(0, 0, 3), Due.NONE);
+        Due.due("count(4)", x.count(4), 0);
+        x.day();
+        Due.due("on another DAY: judge(0, 0, 3)", x.judge(0, 0, 3), Due.NONE);
     }
 
     private static void judgeAtNeitherEnd() {
@@ -523,7 +573,7 @@ public final class ForetoldEdgesTest {
     }
 
     private static void heardUnlike() {
-        Due.sentence("Terms, 3 FORETOLD", "(ways are unlike, if some WARE is not taken at the same time in both)");
+        Due.sentence("Terms, 3 FORETOLD", "in how many ways that can be (ways are unlike, if some WARE is not taken at the same time in both)");
         HeapEnds x = Due.read("law 0;buyer 5 0;ware cloth 4 0;");
         Due.tell(x, 0, 4, 4, 4);
         dueHeard(x, 0, 1, 1, 1);
@@ -555,6 +605,7 @@ public final class ForetoldEdgesTest {
         dueHeard(x, 0, 3, 2, 1 | 1 << 15);
         dueHeard(x, 2, 1, 0, Due.NONE);
         dueHeard(x, 0, 5, 0, Due.NONE);
+        Due.sentence("Terms, 3 FORETOLD", "the WARES that are taken in all of these");
         HeapEnds y = Due.read("law 0;buyer 5 0;ware cloth 4 0;ware cloth 3 0;ware cloth 4 0;");
         Due.tell(y, 0, 4, 3, 4);
         dueHeard(y, 0, 1, 2, 0);
@@ -571,6 +622,15 @@ public final class ForetoldEdgesTest {
         dueHeard(x, 0, 3, 2, 1 | 4 | 8);
         dueHeard(x, 0, 4, 2, 15);
         dueHeard(x, 0, 5, 0, Due.NONE);
+        HeapEnds ends = Due.read("law 0;buyer 5 0;ware fruit 5 0;ware cloth 9 0;ware melon 3 0;");
+        Due.tell(ends, 0, 5, 3, 4);
+        dueHeard(ends, 0, 1, 1, 1);
+        dueHeard(ends, 1, 1, 1, 4);
+        dueHeard(ends, 0, 2, 1, 1 | 4);
+        dueHeard(ends, 2, 1, 0, Due.NONE);
+        ends.day();
+        dueHeard(ends, 0, 1, 0, Due.NONE);
+        dueHeard(ends, 2, 1, 2, 0);
         for (int item : new int[] {-1, 256, 65536, LEAST, MOST, Due.NONE}) {
             Due.tell(x, 0, item);
             dueHeard(x, 0, 1, 0, Due.NONE);
@@ -669,6 +729,28 @@ public final class ForetoldEdgesTest {
         HeapEnds none = Due.read("law 0;buyer 0 0;");
         Due.due("nothing lies: apart(0, 1, 0)", none.apart(0, 1, 0), Due.BAD);
         Due.due("nothing lies: apart(0, 0, 1)", none.apart(0, 0, 1), Due.BAD);
+    }
+
+    /** What was foretold before, when more lay, leaves nothing behind. */
+    private static void foretoldAnew() {
+        Due.sentence("Terms, 3 FORETOLD (nor what is foretold next)", "(nothing changes");
+        HeapEnds x = Due.read("law 0;buyer 0 200;ware cloth 1 0;ware cloth 1 0;ware cloth 1 0;ware cloth 1 0;ware cloth 30 0;");
+        Due.tell(x, 0, 2, 2, 2, 60, 2);
+        // Twice 1 1 1 1 30, then without the 30, then without the 1 at the left.
+        Due.due("apart(0, 2, 1)", x.apart(0, 2, 1), 60);
+        dueHeard(x, 0, 4, 1, 31 - 8);
+        dueHarvest(x, 68, 0, 0, 0, 0, 0);
+        x.take(0, 1);
+        Due.due("apart(0, 2, 1)", x.apart(0, 2, 1), 2);
+        Due.due("apart(0, 0, 1)", x.apart(0, 0, 1), 2);
+        Due.due("apart(0, 4, 4)", x.apart(0, 4, 4), 8);
+        dueHeard(x, 0, 4, 0, Due.NONE);
+        dueHeard(x, 0, 3, 8, 0);
+        dueHarvest(x, 8, 0, 0, 0, 0);
+        x.take(0, 0);
+        Due.due("apart(0, 1, 2)", x.apart(0, 1, 2), 4);
+        dueHeard(x, 0, 3, 4, 2 + 4 + 8);
+        dueHarvest(x, 6, 0, 0, 0);
     }
 
     private static void nothingChanges() {

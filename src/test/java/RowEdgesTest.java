@@ -15,6 +15,7 @@ public final class RowEdgesTest {
         rowSize();
         rowBadAheadOfSize();
         lowestBits();
+        becomes();
         setBad();
         setFindings();
         copyAll();
@@ -179,6 +180,21 @@ public final class RowEdgesTest {
         Due.due("that is no FINDING: status()", x.status(), 0);
     }
 
+    private static void becomes() {
+        Due.sentence("Promise 3, set", "ITEM i becomes v");
+        HeapEnds x = new HeapEnds();
+        x.row(0, 0, 40);
+        Due.due("set(0, 0, 8)", x.set(0, 0, 8), 8);
+        Due.due("set(0, 39, 9)", x.set(0, 39, 9), 9);
+        dueItem(x, 0, 0, 8);
+        dueItem(x, 0, 1, 0);
+        dueItem(x, 0, 38, 0);
+        dueItem(x, 0, 39, 9);
+        Due.due("again: set(0, 39, 0)", x.set(0, 39, 0), 0);
+        dueItem(x, 0, 39, 0);
+        dueItem(x, 0, 0, 8);
+    }
+
     private static void setBad() {
         Due.sentence("Promise 3, set", "BAD: ROW");
         for (int row : NO_ROWS) {
@@ -266,7 +282,7 @@ public final class RowEdgesTest {
     }
 
     private static void copyStore() {
-        Due.sentence("Promise 4, copy", "STORE (ROWS of two LANES)");
+        Due.sentence("Promise 4, copy (ROWS of two LANES)", "STORE");
         Twins.dueFound("copy(0, 0, 1, 0, 1)", x -> x.copy(0, 0, 1, 0, 1), Due.STORE);
         Twins.dueFound("copy(1, 0, 0, 0, 1)", x -> x.copy(1, 0, 0, 0, 1), Due.STORE);
         Twins.dueFound("copy(1, 0, 2, 0, 0)", x -> x.copy(1, 0, 2, 0, 0), Due.STORE);

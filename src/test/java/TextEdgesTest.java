@@ -30,12 +30,15 @@ public final class TextEdgesTest {
         imagesAndRowsStay();
         firstToken();
         leastOfOneToken();
+        notAsTold();
         runsOfFigures();
         theEnd();
         emptyThen();
+        nothingOfTheOneBefore();
         howManyWares();
         faultPlaces();
         allStays();
+        faultTellsThisOne();
         latestFault();
         Due.end("TextEdgesTest");
     }
@@ -437,6 +440,21 @@ public final class TextEdgesTest {
         dueFault("law 0;" + WARE.repeat(9) + "ware silk 1 1 |ware", 1);
     }
 
+    private static void notAsTold() {
+        Due.sentence("Terms, FAULTS", "2 a NUMBER that is not as told");
+        String[] places = {"law |#;", "law 0;buyer |# 0;", "law 0;buyer 0 |#;", "law 0;ware silk |# 0;", "law 0;ware silk 0 |#;"};
+        int[] most = {1, 5, 200, 30, 9};
+        for (int i = 0; i < places.length; i++) {
+            for (int number = 0; number < 1000; number++) {
+                if (number > most[i]) {
+                    dueFault(places[i].replace("#", Integer.toString(number)), 2);
+                } else {
+                    dueWares(places[i].replace("#", Integer.toString(number)).replace("|", ""), i < 3 ? 0 : 1);
+                }
+            }
+        }
+    }
+
     private static void runsOfFigures() {
         Due.sentence("Terms, FAULTS", "a run of four figures or more, at its first");
         dueFault("law |0000;", 1);
@@ -480,6 +498,32 @@ public final class TextEdgesTest {
         Due.due("from the first on: feed('l')", x.feed('l', 1), 1);
     }
 
+    /** The second text ends where the first, that was read before, goes on. */
+    private static void dueAlone(String before, String text, int due) {
+        HeapEnds x = new HeapEnds();
+        Due.feed(x, before);
+        x.market();
+        Due.feed(x, text);
+        Due.due("market() of '" + text + "' behind '" + before + "'", x.market(), due);
+    }
+
+    private static void nothingOfTheOneBefore() {
+        Due.sentence("Promise 7, market (nothing of a text before)", "The tape, empty then, is read");
+        dueAlone("law 0111;", "law 0", -1000105);
+        dueAlone("law 0111;", "law 01", -1000106);
+        dueAlone("law 0;", "law 0", -1000105);
+        dueAlone("law 0;", "law", -1000103);
+        dueAlone("lawlawlaw", "law", -1000103);
+        dueAlone("law       ", "law ", -1000104);
+        dueAlone("law 0;law 0;", "law 0;", 0);
+        dueAlone("law 0;" + BUYER + WARE, "law 0;", 0);
+        dueAlone("law 0;" + WARE + WARE, "law 0;" + WARE, 1);
+        dueAlone("law 0;" + WARE, "", -1000100);
+        dueAlone("law 0;".repeat(60), "law 0;buyer 0 1", -1000115);
+        dueAlone("1".repeat(400), "law 1;buyer 5 20", -1000116);
+        dueAlone("1".repeat(400), " ".repeat(395) + "law 1", -1000500);
+    }
+
     private static void howManyWares() {
         Due.sentence("Promise 7, market", "how many WARES there are");
         for (int n = 0; n <= 10; n++) {
@@ -517,6 +561,20 @@ public final class TextEdgesTest {
             other.market();
             Twins.dueAlike("market() of '" + text + "'", one, other);
         }
+    }
+
+    private static void faultTellsThisOne() {
+        Due.sentence("Promise 7, market", "and fault() tells this one");
+        HeapEnds x = new HeapEnds();
+        Due.feed(x, "law 2;");
+        Due.due("market()", x.market(), -1000104);
+        Due.due("fault()", x.fault(), 2);
+        Due.feed(x, "law 0;" + WARE.repeat(11));
+        Due.due("ahead of market(): fault()", x.fault(), 2);
+        Due.due("market()", x.market(), -1000246);
+        Due.due("fault()", x.fault(), 3);
+        Due.due("market()", x.market(), -1000100);
+        Due.due("fault()", x.fault(), 1);
     }
 
     private static void latestFault() {

@@ -8,6 +8,7 @@ public final class TurnEdgesTest {
         whatBad();
         bestOfNothing();
         bestOfOne();
+        allWares();
         turnsOneEach();
         turnsTwoEach();
         likeOnesOfA();
@@ -29,8 +30,10 @@ public final class TurnEdgesTest {
         laidFirstByNumbers();
         ringOfNothing();
         ringCuts();
+        ringEnds();
         ringLeastOfSeveral();
         nothingChanges();
+        foretoldAnew();
         Due.end("TurnEdgesTest");
     }
 
@@ -144,6 +147,23 @@ public final class TurnEdgesTest {
         }
     }
 
+    private static void allWares() {
+        Due.sentence("Terms, 3 FORETOLD", "they take all WARES of THE HEAP by TURNS, a first");
+        // Neither likes any of these, so that both together have the VALUE of all that lie.
+        for (int law = 0; law < 2; law++) {
+            HeapEnds x = Due.read("law " + law + ";buyer 5 0;buyer 3 99;ware fruit 1 0;ware cloth 2 0;ware fruit 4 0;ware cloth 8 0;");
+            for (int what = 0; what < 4; what++) {
+                int lie = 15 >> what << what;
+                Due.due("a and b, of " + lie, x.best(0, 1, 0) + x.best(0, 1, 1), lie);
+                Due.due("a alone has nothing", x.best(0, 1, 1) == lie ? 1 : 0, 0);
+                x.take(1, 0);
+            }
+        }
+        HeapEnds y = heap(0, "c3 c9");
+        dueBest(y, 0, 1, 9, 6, 1);
+        dueBest(y, 1, 0, 18, 3, 1);
+    }
+
     private static void turnsOneEach() {
         Due.sentence("Terms, 3 FORETOLD", "TURN 0: one each, a, b, a, b");
         for (int n = 0; n <= 16; n++) {
@@ -201,7 +221,7 @@ public final class TurnEdgesTest {
     }
 
     private static void passOfLittle() {
-        Due.sentence("Promise 17, passBy (nothing, or one WARE, lies)", "0 at least");
+        Due.sentence("Terms, 3 FORETOLD (nothing, or one WARE, lies)", "0 at least");
         for (int law = 0; law < 2; law++) {
             for (String wares : new String[] {"", "c0", "c9", "f9"}) {
                 Due.due("passBy(0, 1) of " + wares, heap(law, wares).passBy(0, 1), 0);
@@ -330,6 +350,10 @@ public final class TurnEdgesTest {
             Due.due("the greatest number lies leftmost", x.ware(n - 1, 3), 0);
             dueLaid(x, (n + 1) / 2, numbers);
         }
+        HeapEnds nothing = heap(1, "f1 f2 c0 c3 f4 c1");
+        Due.due("laid(0, 1, 0)", nothing.laid(0, 1, 0), 2);
+        Due.readInto(nothing, "law 0;buyer 1 0;buyer 4 0;" + "ware cloth 0 0;".repeat(3));
+        dueLaid(nothing, 0, 0, 1, 2);
         HeapEnds y = Due.read("law 0;buyer 1 99;buyer 4 0;" + "ware cloth 0 0;".repeat(10));
         for (int i = 0; i < 10; i++) {
             y.take(0, 0);
@@ -370,6 +394,14 @@ public final class TurnEdgesTest {
         dueRing(heap(1, "c4 f2 c5 f4 f1 f0 c5 c1"), 19, 6);
     }
 
+    private static void ringEnds() {
+        Due.sentence("Terms, 3 FORETOLD", "RING: THE HEAP's ends are beside one another");
+        HeapEnds x = Due.read("law 0;buyer 1 0;buyer 1 0;ware cloth 2 0;ware cloth 9 0;ware cloth 4 0;");
+        // As it lies b has the 9; cut ahead of it the 4 and the 2, which were its ends, lie behind it, side by side.
+        Due.due("best(0, 1, 0)", x.best(0, 1, 0), 2 + 4);
+        dueRing(x, 9 + 2, 1);
+    }
+
     private static void ringLeastOfSeveral() {
         Due.sentence("Terms, 3 FORETOLD", "the c by which a GAINS most by BEST, the least of several");
         dueRing(heap(0, "c4 c2 c9"), 11, 0);
@@ -377,6 +409,39 @@ public final class TurnEdgesTest {
         dueRing(heap(1, "c2 f4 c5"), 8, 1);
         dueRing(alike(0, 16), 8, 0);
         dueRing(alike(1, 15), 7, 0);
+        HeapEnds nothing = heap(0, "c3 f3 f5 f3");
+        dueRing(nothing, 16, 2);
+        Due.readInto(nothing, "law 0;buyer 1 0;buyer 4 0;" + "ware cloth 0 0;".repeat(4));
+        dueRing(nothing, 0, 0);
+    }
+
+    /** What was foretold before, of other WARES and of the two the other way round, leaves nothing behind. */
+    private static void foretoldAnew() {
+        Due.sentence("Terms, 3 FORETOLD (nor what is foretold next)", "(nothing changes");
+        String[] heaps = {"f30 c29 f28 c27 f26 c25", "f0 f4 c0", "c3 f3 f5 f3", "c1 c2 c0", "f4 c1 c4 c1 c4", "c9", "", "f1 f2 c0 c3 f4 c1",
+            "c0 c0", "f0 f4 c0"};
+        for (int law = 0; law < 2; law++) {
+            HeapEnds x = new HeapEnds();
+            for (String wares : heaps) {
+                x.market();
+                Due.readInto(x, "law " + law + ";buyer 1 0;buyer 4 0;");
+                for (String ware : wares.isEmpty() ? new String[0] : wares.split(" ")) {
+                    x.lay(ware.charAt(0) == 'f' ? 1 : 4, Integer.parseInt(ware.substring(1)), 1);
+                }
+                for (int a = 0; a < 2; a++) {
+                    String call = "law " + law + ", " + wares + ", a is " + a + ": ";
+                    int b = 1 - a;
+                    Due.due(call + "passBy", x.passBy(a, b), heap(law, wares).passBy(a, b));
+                    Due.due(call + "best 0", x.best(a, b, 0), heap(law, wares).best(a, b, 0));
+                    Due.due(call + "best 1", x.best(a, b, 1), heap(law, wares).best(a, b, 1));
+                    Due.due(call + "best 2", x.best(a, b, 2), heap(law, wares).best(a, b, 2));
+                    Due.due(call + "ring 0", x.ring(a, b, 0), heap(law, wares).ring(a, b, 0));
+                    Due.due(call + "ring 1", x.ring(a, b, 1), heap(law, wares).ring(a, b, 1));
+                    Due.due(call + "laid -1", x.laid(a, b, -1), heap(law, wares).laid(a, b, -1));
+                    Due.due(call + "laid 1", x.laid(a, b, 1), heap(law, wares).laid(a, b, 1));
+                }
+            }
+        }
     }
 
     private static void nothingChanges() {

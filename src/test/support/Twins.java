@@ -92,15 +92,20 @@ final class Twins {
         for (int row = 0; row < 8; row++) {
             lookAtRow(x, row, seen, names);
         }
+        note("undo()", x.undo(), seen, names);
+        lookAtMarket(x, "the latest act undone", seen, names);
         for (int i = 0; i < 4; i++) {
             note("undo()", x.undo(), seen, names);
-            lookAtMarket(x, "undone " + i, seen, names);
         }
+        lookAtMarket(x, "five acts undone", seen, names);
         note("market()", x.market(), seen, names);
         note("fault()", x.fault(), seen, names);
         for (int k = 0; k < 2; k++) {
-            note("restore(" + k + ")", x.restore(k), seen, names);
-            lookAtMarket(x, "restored " + k, seen, names);
+            int restored = x.restore(k);
+            note("restore(" + k + ")", restored, seen, names);
+            if (restored > 0) {
+                lookAtMarket(x, "restored " + k, seen, names);
+            }
         }
         return seen;
     }
@@ -114,12 +119,14 @@ final class Twins {
         for (int what = 0; what <= 6; what++) {
             note(when + ": count(" + what + ")", x.count(what), seen, names);
         }
-        for (int buyer = 0; buyer < x.count(1); buyer++) {
+        int buyers = x.count(1);
+        int wares = x.count(2);
+        for (int buyer = 0; buyer < buyers; buyer++) {
             for (int what = 0; what < 4; what++) {
                 note(when + ": buyer(" + buyer + ", " + what + ")", x.buyer(buyer, what), seen, names);
             }
         }
-        for (int ware = 0; ware < x.count(2); ware++) {
+        for (int ware = 0; ware < wares; ware++) {
             for (int what = 0; what < 5; what++) {
                 note(when + ": ware(" + ware + ", " + what + ")", x.ware(ware, what), seen, names);
             }
