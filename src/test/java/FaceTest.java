@@ -23,6 +23,14 @@ public final class FaceTest {
         "heard(int,int,int,int,int)", "apart(int,int,int)", "image(int)", "restore(int)",
         "kind(int)", "as(int,int)", "ask(int,int)", "trace(int)", "count(int)", "status()",
     };
+    /** "Ahead of the calls .. the interface says": each heading, then its calls. */
+    private static final String[][] SECTIONS = {
+        {"rows", "row", "set", "copy", "drop"},
+        {"markets, acts", "feed", "market", "fault", "take", "lay", "day", "undo", "ware", "buyer", "worth"},
+        {"foretold", "best", "passBy", "laid", "ring", "line", "rots", "reach", "harvest", "judge", "heard", "apart",
+            "image", "restore"},
+        {"asked", "kind", "as", "ask", "trace", "count", "status"},
+    };
     private static final Set<String> LIBRARY = Set.of("Arrays.fill", "System.arraycopy", "Math.min", "Math.max",
         "Integer.bitCount");
 
@@ -30,7 +38,9 @@ public final class FaceTest {
         constants();
         members();
         inside();
-        source(Files.readString(Path.of("src/main/java/HeapEnds.java")));
+        String source = Files.readString(Path.of("src/main/java/HeapEnds.java"));
+        sections(source);
+        source(source);
         promisesHaveEdges();
         Due.end("FaceTest");
     }
@@ -104,6 +114,18 @@ public final class FaceTest {
             dueTrue(c + " has " + fields + " fields", fields <= 20);
             for (Method m : c.getDeclaredMethods()) {
                 dueTrue(m + " has too many parameters", m.getParameterCount() <= 7);
+            }
+        }
+    }
+
+    private static void sections(String text) {
+        int at = 0;
+        for (String[] section : SECTIONS) {
+            String before = "    // ---- " + section[0] + "\n";
+            for (int i = 0; i < section.length; i++) {
+                int next = text.indexOf(i == 0 ? before : "public int " + section[i] + "(", at);
+                dueTrue("'" + section[i] + "' stands in its order", next >= at);
+                at = Math.max(at, next);
             }
         }
     }
